@@ -182,7 +182,7 @@ public final class PointInTime {
     }
 
     private int cellNow(int k) {
-        return (present * POINTS + lastPoints[present]) * KEYS + k;
+        return cell(present, lastPoints[present], k);
     }
 
     /** The new point begins with the state of the one before it; the change is then made in it. */
