@@ -1,6 +1,7 @@
+import java.util.ArrayList;
 import java.util.List;
 
-/** What the tests of boundary cases have in common: the edges, the states, and ways to check. */
+/** What the tests of the document's sentences have in common: the edges, the states, and ways to check. */
 final class Bounds {
     static final int MIN = Integer.MIN_VALUE;
     static final int MAX = Integer.MAX_VALUE;
@@ -23,6 +24,19 @@ final class Bounds {
         Call.set(0, MIN), Call.set(7, MAX), Call.add(1, -1), Call.set(2, 22), Call.exchange(2, 3),
         Call.set(2, 2), Call.add(4, 44), Call.set(5, 55), Call.set(6, -66));
 
+    /** What is due at each point of the busy state's timeline, written down by hand. */
+    static final int[][] BUSY_STATES = {
+        {0, 0, 0, 0, 0, 0, 0, 0},
+        {MIN, 0, 0, 0, 0, 0, 0, 0},
+        {MIN, 0, 0, 0, 0, 0, 0, MAX},
+        {MIN, -1, 0, 0, 0, 0, 0, MAX},
+        {MIN, -1, 22, 0, 0, 0, 0, MAX},
+        {MIN, -1, 0, 22, 0, 0, 0, MAX},
+        {MIN, -1, 2, 22, 0, 0, 0, MAX},
+        {MIN, -1, 2, 22, 44, 0, 0, MAX},
+        {MIN, -1, 2, 22, 44, 55, 0, MAX},
+        {MIN, -1, 2, 22, 44, 55, -66, MAX}};
+
     /** Three timelines, of which the last two have left the first at points of their own. */
     static final Run BRANCHED = BUSY.then("branched",
         Call.restore(0, 8), Call.add(0, -1), Call.restore(1, 9), Call.set(6, 5), Call.exchange(0, 7));
@@ -42,7 +56,10 @@ final class Bounds {
         Call.restore(0, 0), Call.timeline(), Call.point(), Call.set(3, 3), Call.differs(0, 0), Call.digest(),
         Call.restore(1, 1), Call.lastChange(1, 1, 3), Call.lastPoint(0), Call.lastPoint(2));
 
+    private record Sentence(String section, String words, int madeBefore) { }
+
     private final Checks checks;
+    private final List<Sentence> sentences = new ArrayList<>();
 
     Bounds(String test) {
         checks = new Checks(test);
@@ -56,9 +73,24 @@ final class Bounds {
         return run.then("six full timelines");
     }
 
-    /** From here on the checks are those of this sentence of the document. */
-    void sentence(String words) {
-        checks.part(words);
+    /** From here on the checks are those of these words of the document. */
+    void sentence(String section, String words) {
+        sentences.add(new Sentence(section, words, checks.madeSoFar()));
+        checks.part(section + ": " + words);
+    }
+
+    void everySentenceHadChecks(Document document) {
+        int madeAfter = checks.madeSoFar();
+        checks.part("the document's sentences");
+        for (int i = sentences.size() - 1; i >= 0; i--) {
+            Sentence sentence = sentences.get(i);
+            holds("checked: " + sentence, sentence.madeBefore() < madeAfter);
+            holds("words of the document: " + sentence, document.quote(sentence.section(), sentence.words()));
+            madeAfter = sentence.madeBefore();
+        }
+        for (String words : document.notQuoted()) {
+            holds("a test has: " + words, false);
+        }
     }
 
     void end() {
@@ -71,6 +103,18 @@ final class Bounds {
 
     void holds(String what, boolean held) {
         checks.holds(what, held);
+    }
+
+    void valuesNow(String after, PointInTime x, int[] want) {
+        for (int k = 0; k <= 7; k++) {
+            due(after + ", then get(" + k + ")", x.get(k), want[k]);
+        }
+    }
+
+    void valuesAt(String after, PointInTime x, int t, int n, int[] want) {
+        for (int k = 0; k <= 7; k++) {
+            due(after + ", then valueAt(" + t + ", " + n + ", " + k + ")", x.valueAt(t, n, k), want[k]);
+        }
     }
 
     void due(Run before, Call call, int want) {

@@ -29,6 +29,10 @@ final class Checks {
         }
     }
 
+    int madeSoFar() {
+        return made;
+    }
+
     int wrongSoFar() {
         return wrong;
     }

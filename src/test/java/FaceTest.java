@@ -1,10 +1,15 @@
+import java.io.IOException;
 import java.lang.reflect.Constructor;
 import java.lang.reflect.Field;
 import java.lang.reflect.Method;
 import java.lang.reflect.Modifier;
+import java.nio.file.Files;
+import java.nio.file.Path;
 import java.util.Arrays;
 import java.util.Set;
 import java.util.TreeSet;
+import java.util.regex.Matcher;
+import java.util.regex.Pattern;
 
 /** The public face as the document has it, and the rules of LANGUAGE.md that reflection can see. */
 public final class FaceTest {
@@ -19,7 +24,8 @@ public final class FaceTest {
         int.class, long.class, short.class, byte.class, char.class, boolean.class,
         int[].class, long[].class, short[].class, byte[].class, char[].class, boolean[].class);
 
-    public static void main(String[] args) {
+    public static void main(String[] args) throws IOException {
+        documentsFace();
         constants();
         theClass();
         publicMembers();
@@ -32,6 +38,36 @@ public final class FaceTest {
         CHECKS.due("BAD_ARG", PointInTime.BAD_ARG, -1);
         CHECKS.due("FULL", PointInTime.FULL, -2);
         CHECKS.due("NONE", PointInTime.NONE, -4);
+        CHECKS.due("constants for a compiler", asLabels(PointInTime.FULL), 2);
+    }
+
+    /** Compiles only if the three are constants already when a program that uses them is compiled. */
+    private static int asLabels(int code) {
+        return switch (code) {
+            case PointInTime.BAD_ARG -> 1;
+            case PointInTime.FULL -> 2;
+            case PointInTime.NONE -> 3;
+            default -> 0;
+        };
+    }
+
+    /** The face as the document shows it is the one that the checks below hold the class against. */
+    private static void documentsFace() throws IOException {
+        CHECKS.part("the document's face");
+        String face = Files.readString(Path.of("../shared/DOC.md")).split("```")[1];
+        Set<String> methods = new TreeSet<>();
+        Matcher method = Pattern.compile("public int (\\w+)\\((.*)\\);").matcher(face);
+        while (method.find()) {
+            methods.add(method.group(1) + "/" + (method.group(2).isEmpty() ? 0 : method.group(2).split(",").length));
+        }
+        CHECKS.holds("methods " + methods, methods.equals(new TreeSet<>(Arrays.asList(METHODS))));
+        Set<String> constants = new TreeSet<>();
+        Matcher constant = Pattern.compile("public static final int (\\w+ = -?\\d+);").matcher(face);
+        while (constant.find()) {
+            constants.add(constant.group(1));
+        }
+        CHECKS.holds("constants " + constants, constants.equals(Set.of("BAD_ARG = -1", "FULL = -2", "NONE = -4")));
+        CHECKS.holds("constructor", face.contains("public PointInTime();"));
     }
 
     private static void theClass() {

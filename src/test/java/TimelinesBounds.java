@@ -1,21 +1,23 @@
-/** The boundary cases of promises 6 to 12: where it is, restoring, and asking about the past. */
-public final class TimelinesBoundsTest {
+/** Promises 6 to 12, sentence by sentence: where it is, restoring, and asking about the past. */
+final class TimelinesBounds {
     private static final int MIN = Bounds.MIN;
     private static final int MAX = Bounds.MAX;
     private static final int BAD_ARG = Bounds.BAD_ARG;
     private static final int FULL = Bounds.FULL;
     private static final int NONE = Bounds.NONE;
 
-    private static final Bounds BOUNDS = new Bounds("TimelinesBoundsTest");
+    private static final Bounds BOUNDS = DocumentTest.BOUNDS;
 
-    public static void main(String[] args) {
+    static void all() {
         timelineOfThePresent();
         pointOfThePresent();
+        restores();
         restoreNoTimeline();
         restoreNoPoint();
         restoreFull();
         restoreOrder();
         restoreNewTimeline();
+        valueAtAPoint();
         valueAtNoPoint();
         valueAtNoKey();
         lastPointNone();
@@ -26,11 +28,10 @@ public final class TimelinesBoundsTest {
         lastChangeKeyTestedFirst();
         differsHowMany();
         differsNoPoint();
-        BOUNDS.end();
     }
 
     private static void timelineOfThePresent() {
-        BOUNDS.sentence("6: The number of the present timeline.");
+        BOUNDS.sentence("6", "The number of the present timeline.");
         PointInTime x = Bounds.BUSY.made();
         for (int t = 0; t <= 5; t++) {
             BOUNDS.due("timeline()", x.timeline(), t);
@@ -44,7 +45,7 @@ public final class TimelinesBoundsTest {
     }
 
     private static void pointOfThePresent() {
-        BOUNDS.sentence("7: The last point of the present timeline.");
+        BOUNDS.sentence("7", "The last point of the present timeline.");
         PointInTime x = new PointInTime();
         for (int p = 0; p <= 30; p++) {
             BOUNDS.due("point()", x.point(), p);
@@ -62,8 +63,29 @@ public final class TimelinesBoundsTest {
         BOUNDS.unseen(Bounds.ALL_FULL, Call.point(), 30);
     }
 
+    private static void restores() {
+        BOUNDS.sentence("8", "Restores.");
+        for (int n = 0; n <= 9; n++) {
+            PointInTime x = Bounds.BUSY.made();
+            String restored = "busy, restore(0, " + n + ")";
+            BOUNDS.due(restored, x.restore(0, n), 1);
+            BOUNDS.due(restored + ", then timeline()", x.timeline(), 1);
+            BOUNDS.due(restored + ", then point()", x.point(), n);
+            BOUNDS.due(restored + ", then lastPoint(0)", x.lastPoint(0), 9);
+            BOUNDS.valuesNow(restored, x, Bounds.BUSY_STATES[n]);
+            for (int p = 0; p <= n; p++) {
+                BOUNDS.valuesAt(restored, x, 1, p, Bounds.BUSY_STATES[p]);
+            }
+            BOUNDS.due(restored + ", then set(6, 7)", x.set(6, 7), n + 1);
+            BOUNDS.due(restored + ", then set(6, 7), then lastPoint(1)", x.lastPoint(1), n + 1);
+            for (int p = 0; p <= 9; p++) {
+                BOUNDS.valuesAt(restored + ", then set(6, 7)", x, 0, p, Bounds.BUSY_STATES[p]);
+            }
+        }
+    }
+
     private static void restoreNoTimeline() {
-        BOUNDS.sentence("8: there is no timeline t .. answers NONE");
+        BOUNDS.sentence("8", "there is no timeline t or it has no point n answers NONE");
         for (Run state : Bounds.STATES) {
             for (int t : Bounds.NEVER_TIMELINES) {
                 BOUNDS.refused(state, Call.restore(t, 0), NONE);
@@ -79,7 +101,7 @@ public final class TimelinesBoundsTest {
     }
 
     private static void restoreNoPoint() {
-        BOUNDS.sentence("8: or it has no point n answers NONE");
+        BOUNDS.sentence("8", "there is no timeline t or it has no point n answers NONE");
         for (Run state : Bounds.STATES) {
             for (int t = 0; t <= state.model().timeline(); t++) {
                 for (int n : Bounds.NEVER_POINTS) {
@@ -95,7 +117,7 @@ public final class TimelinesBoundsTest {
     }
 
     private static void restoreFull() {
-        BOUNDS.sentence("8: there are 6 timelines answers FULL");
+        BOUNDS.sentence("8", "there are 6 timelines answers FULL");
         Run five = Bounds.BRANCHED.then("five timelines", Call.restore(0, 9), Call.restore(3, 0));
         for (int t = 0; t <= 4; t++) {
             BOUNDS.due(five, Call.restore(t, 0), 5);
@@ -110,7 +132,7 @@ public final class TimelinesBoundsTest {
     }
 
     private static void restoreOrder() {
-        BOUNDS.sentence("8: Tested in this order");
+        BOUNDS.sentence("8", "Tested in this order");
         for (Run state : new Run[] {Bounds.ALL_TIMELINES, Bounds.ALL_FULL}) {
             for (int t : Bounds.NEVER_TIMELINES) {
                 BOUNDS.refused(state, Call.restore(t, 0), NONE);
@@ -126,14 +148,32 @@ public final class TimelinesBoundsTest {
     }
 
     private static void restoreNewTimeline() {
-        BOUNDS.sentence("8: Otherwise the number of the new timeline.");
+        BOUNDS.sentence("8", "Otherwise the number of the new timeline.");
         Call[] restores = {Call.restore(0, 9), Call.restore(1, 0), Call.restore(0, 1), Call.restore(3, 1),
             Call.restore(1, 9), Call.restore(5, 9)};
         BOUNDS.dueInTurn(Bounds.BUSY, restores, new int[] {1, 2, 3, 4, 5, FULL});
     }
 
+    private static void valueAtAPoint() {
+        BOUNDS.sentence("9", "The value of key k at point n of timeline t");
+        PointInTime x = Bounds.BRANCHED.made();
+        for (int n = 0; n <= 9; n++) {
+            BOUNDS.valuesAt("branched", x, 0, n, Bounds.BUSY_STATES[n]);
+        }
+        int[] lowered = {MAX, -1, 2, 22, 44, 55, 0, MAX};
+        int[] ended = {MAX, -1, 2, 22, 44, 55, 5, MAX};
+        for (int t = 1; t <= 2; t++) {
+            for (int n = 0; n <= 8; n++) {
+                BOUNDS.valuesAt("branched", x, t, n, Bounds.BUSY_STATES[n]);
+            }
+            BOUNDS.valuesAt("branched", x, t, 9, lowered);
+        }
+        BOUNDS.valuesAt("branched", x, 2, 10, ended);
+        BOUNDS.valuesAt("branched", x, 2, 11, ended);
+    }
+
     private static void valueAtNoPoint() {
-        BOUNDS.sentence("9: 0 if there is no such point");
+        BOUNDS.sentence("9", "0 if there is no such point or key.");
         for (Run state : Bounds.STATES) {
             Model model = state.model();
             for (int k = 0; k <= 7; k += 7) {
@@ -168,7 +208,7 @@ public final class TimelinesBoundsTest {
     }
 
     private static void valueAtNoKey() {
-        BOUNDS.sentence("9: 0 if there is no such .. key");
+        BOUNDS.sentence("9", "0 if there is no such point or key.");
         for (Run state : Bounds.STATES) {
             Model model = state.model();
             for (int t = 0; t <= model.timeline(); t++) {
@@ -185,7 +225,7 @@ public final class TimelinesBoundsTest {
     }
 
     private static void lastPointNone() {
-        BOUNDS.sentence("10: The last point of timeline t; NONE if there is none.");
+        BOUNDS.sentence("10", "The last point of timeline t; NONE if there is none.");
         for (Run state : Bounds.STATES) {
             for (int t : Bounds.NEVER_TIMELINES) {
                 BOUNDS.refused(state, Call.lastPoint(t), NONE);
@@ -212,7 +252,7 @@ public final class TimelinesBoundsTest {
     }
 
     private static void lastChangeNOrLess() {
-        BOUNDS.sentence("11: The last point of timeline t, n or less");
+        BOUNDS.sentence("11", "The last point of timeline t, n or less");
         Run run = Bounds.EMPTY.then("changed at 1, 3 and 30", Call.set(0, 1), Call.set(7, 1), Call.set(0, 2));
         for (int p = 4; p <= 29; p++) {
             run = run.then(run.toString(), Call.set(1, p));
@@ -231,7 +271,7 @@ public final class TimelinesBoundsTest {
     }
 
     private static void lastChangeAnotherValue() {
-        BOUNDS.sentence("11: at which key k got another value than at the point before");
+        BOUNDS.sentence("11", "at which key k got another value than at the point before");
         for (int before : Bounds.VALUES) {
             for (int after : Bounds.VALUES) {
                 for (int k = 0; k <= 7; k++) {
@@ -254,7 +294,7 @@ public final class TimelinesBoundsTest {
     }
 
     private static void lastChangeNoneYet() {
-        BOUNDS.sentence("11: 0 if there is none.");
+        BOUNDS.sentence("11", "0 if there is none.");
         for (Run state : Bounds.STATES) {
             for (int t = 0; t <= state.model().timeline(); t++) {
                 for (int k = 0; k <= 7; k++) {
@@ -273,7 +313,7 @@ public final class TimelinesBoundsTest {
     }
 
     private static void lastChangeNoPoint() {
-        BOUNDS.sentence("11: NONE if there is no such timeline or point");
+        BOUNDS.sentence("11", "NONE if there is no such timeline or point");
         for (Run state : Bounds.STATES) {
             Model model = state.model();
             for (int k = 0; k <= 7; k += 7) {
@@ -296,7 +336,7 @@ public final class TimelinesBoundsTest {
     }
 
     private static void lastChangeKeyTestedFirst() {
-        BOUNDS.sentence("11: BAD_ARG if k is not 0 to 7, tested first.");
+        BOUNDS.sentence("11", "BAD_ARG if k is not 0 to 7, tested first.");
         for (Run state : Bounds.STATES) {
             Model model = state.model();
             for (int k : Bounds.NOT_KEYS) {
@@ -314,7 +354,7 @@ public final class TimelinesBoundsTest {
     }
 
     private static void differsHowMany() {
-        BOUNDS.sentence("12: How many keys have different values at point n of timeline t and now");
+        BOUNDS.sentence("12", "How many keys have different values at point n of timeline t and now");
         BOUNDS.unseen(Bounds.EMPTY, Call.differs(0, 0), 0);
         BOUNDS.unseen(Bounds.BUSY, Call.differs(0, 9), 0);
         BOUNDS.unseen(Bounds.BUSY, Call.differs(0, 8), 1);
@@ -337,7 +377,7 @@ public final class TimelinesBoundsTest {
     }
 
     private static void differsNoPoint() {
-        BOUNDS.sentence("12: NONE if there is no such point");
+        BOUNDS.sentence("12", "NONE if there is no such point");
         for (Run state : Bounds.STATES) {
             Model model = state.model();
             for (int t : Bounds.NEVER_TIMELINES) {

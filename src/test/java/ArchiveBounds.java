@@ -1,10 +1,10 @@
-/** The boundary cases of promises 13 to 15: crash, backup and flush. */
-public final class ArchiveBoundsTest {
+/** Promises 13 to 15, sentence by sentence: crash, backup and flush. */
+final class ArchiveBounds {
     private static final int BAD_ARG = Bounds.BAD_ARG;
 
-    private static final Bounds BOUNDS = new Bounds("ArchiveBoundsTest");
+    private static final Bounds BOUNDS = DocumentTest.BOUNDS;
 
-    public static void main(String[] args) {
+    static void all() {
         crashAnswers0();
         backupBegins();
         backupCopiesMore();
@@ -12,16 +12,16 @@ public final class ArchiveBoundsTest {
         backupBadArg();
         flushSoMany();
         flushBadArg();
-        BOUNDS.end();
     }
 
     private static void crashAnswers0() {
-        BOUNDS.sentence("13: The power fails and comes back: answers 0.");
+        BOUNDS.sentence("13", "The power fails and comes back: answers 0.");
         for (Run state : Bounds.STATES) {
             BOUNDS.unseen(state, Call.crash(), 0);
             Run again = state.then(state + ", crashed", Call.crash());
             BOUNDS.unseen(again, Call.crash(), 0);
-            Run partly = state.then(state + ", partly copied and written", Call.backup(8), Call.backup(7), Call.flush(1));
+            Run partly = state.then(state + ", partly copied and written",
+                Call.backup(8), Call.backup(7), Call.flush(1));
             BOUNDS.unseen(partly, Call.crash(), 0);
         }
         Run gone = Bounds.BUSY.then("crashed", Call.crash());
@@ -32,7 +32,7 @@ public final class ArchiveBoundsTest {
     }
 
     private static void backupBegins() {
-        BOUNDS.sentence("14: begins one, if none is under way");
+        BOUNDS.sentence("14", "A backup: begins one, if none is under way");
         for (Run state : Bounds.STATES) {
             for (int many = 0; many <= 8; many++) {
                 BOUNDS.unseen(state, Call.backup(many), 0);
@@ -41,7 +41,7 @@ public final class ArchiveBoundsTest {
     }
 
     private static void backupCopiesMore() {
-        BOUNDS.sentence("14: else copies so many more keys (0 to 8)");
+        BOUNDS.sentence("14", "else copies so many more keys (0 to 8)");
         for (Run state : Bounds.STATES) {
             Run begun = state.then(state + ", a backup begun", Call.backup(8));
             for (int many = 0; many <= 8; many++) {
@@ -54,7 +54,7 @@ public final class ArchiveBoundsTest {
     }
 
     private static void backupIsFinished() {
-        BOUNDS.sentence("14: when all are copied it is finished");
+        BOUNDS.sentence("14", "when all are copied it is finished");
         for (int many = 1; many <= 8; many++) {
             PointInTime x = new PointInTime();
             for (int turn = 0; turn < 50; turn++) {
@@ -71,7 +71,7 @@ public final class ArchiveBoundsTest {
     }
 
     private static void backupBadArg() {
-        BOUNDS.sentence("14: Answers 0, or BAD_ARG if many is not 0 to 8.");
+        BOUNDS.sentence("14", "Answers 0, or BAD_ARG if many is not 0 to 8.");
         for (Run state : Bounds.STATES) {
             Run begun = state.then(state + ", a backup begun", Call.backup(0));
             Run partly = begun.then(state + ", a backup under way", Call.backup(7));
@@ -87,7 +87,7 @@ public final class ArchiveBoundsTest {
     }
 
     private static void flushSoMany() {
-        BOUNDS.sentence("15: Writes so many of the keys' values that are only in memory to the disk");
+        BOUNDS.sentence("15", "Writes so many of the keys' values that are only in memory to the disk");
         for (Run state : Bounds.STATES) {
             Run written = state.then(state + ", all written", Call.flush(8));
             for (int many = 0; many <= 8; many++) {
@@ -105,7 +105,7 @@ public final class ArchiveBoundsTest {
     }
 
     private static void flushBadArg() {
-        BOUNDS.sentence("15: BAD_ARG if many is not 0 to 8, else 0");
+        BOUNDS.sentence("15", "BAD_ARG if many is not 0 to 8, else 0");
         for (Run state : Bounds.STATES) {
             Run written = state.then(state + ", all written", Call.flush(8));
             for (Run run : new Run[] {state, written}) {

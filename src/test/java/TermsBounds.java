@@ -1,11 +1,12 @@
 import java.util.ArrayList;
 import java.util.List;
 
-/** The boundary cases in "What it is" and "Terms", sentence by sentence. */
-public final class TermsBoundsTest {
-    private static final Bounds BOUNDS = new Bounds("TermsBoundsTest");
+/** "What it is" and "Terms", sentence by sentence. */
+final class TermsBounds {
+    private static final Bounds BOUNDS = DocumentTest.BOUNDS;
 
-    public static void main(String[] args) {
+    static void all() {
+        historyIsKept();
         calls512();
         laterCalls();
         keysAtFirst();
@@ -13,6 +14,7 @@ public final class TermsBoundsTest {
         changeSetsOneOrTwoKeys();
         timelinesAtMost5();
         timeline0Begins();
+        pointsAreNumbered();
         pointZeroIsTheBegin();
         everyChangeMakesTheNextPoint();
         stateAtAPoint();
@@ -22,7 +24,7 @@ public final class TermsBoundsTest {
         backupsAreNotSeen();
         noCallThrows();
         refusedCallsChangeNothing();
-        BOUNDS.end();
+        constants();
     }
 
     /** One call of each kind, none of them refused where there is room. */
@@ -40,8 +42,44 @@ public final class TermsBoundsTest {
         return before.then(before + ", then " + times + " calls", all);
     }
 
+    private static void historyIsKept() {
+        BOUNDS.sentence("What it is", "A store whose history is kept: backups made while it goes on, a log, "
+            + "and restoring it as it was after any change, on branches of time.");
+        for (int n = 0; n <= 20; n++) {
+            PointInTime x = new PointInTime();
+            int[][] seen = new int[21][8];
+            changeAndSee(x, 1, seen);
+            BOUNDS.due("restore(0, " + n + ")", x.restore(0, n), 1);
+            BOUNDS.valuesNow("restore(0, " + n + ")", x, seen[n]);
+            changeAndSee(x, n + 1, seen);
+            for (int m = 0; m <= 20; m += 10) {
+                BOUNDS.due("restore(1, " + m + ")", x.restore(1, m), 2 + m / 10);
+                BOUNDS.valuesNow("restored at " + n + ", then restore(1, " + m + ")", x, seen[m]);
+            }
+        }
+    }
+
+    /** Makes the points from this one to 20 while backups are made, and notes what the values are at each. */
+    private static void changeAndSee(PointInTime x, int first, int[][] seen) {
+        for (int p = first; p <= 20; p++) {
+            switch (p % 3) {
+                case 0 -> x.exchange(p % 8, (p + 5) % 8);
+                case 1 -> x.set(p % 8, 100 * first + p);
+                default -> x.add((p + 3) % 8, -p);
+            }
+            if (p % 4 == 0) {
+                x.backup(p % 9);
+                x.flush(2);
+                x.crash();
+            }
+            for (int k = 0; k <= 7; k++) {
+                seen[p][k] = x.get(k);
+            }
+        }
+    }
+
     private static void calls512() {
-        BOUNDS.sentence("An object is used for at most 512 calls after it has been made");
+        BOUNDS.sentence("What it is", "An object is used for at most 512 calls after it has been made");
         Run before = Run.empty().then("one change", Call.set(0, 5));
         Run idle = repeated(before, 510, Call.crash(), Call.backup(1), Call.flush(8), Call.backup(0), Call.get(0));
         BOUNDS.due("calls made", idle.length(), 511);
@@ -59,7 +97,8 @@ public final class TermsBoundsTest {
     }
 
     private static void laterCalls() {
-        BOUNDS.sentence("what later calls answer is free (they still may not throw: LANGUAGE.md, rule 7)");
+        BOUNDS.sentence("What it is", "what later calls answer is free");
+        // Even then no call may throw: the rules of LANGUAGE.md know no last call.
         for (Run state : Bounds.STATES) {
             PointInTime x = state.made();
             for (int i = state.length(); i < 5000; i++) {
@@ -69,7 +108,7 @@ public final class TermsBoundsTest {
     }
 
     private static void keysAtFirst() {
-        BOUNDS.sentence("KEYS are 0 to 7, each with a value (an int), 0 at first.");
+        BOUNDS.sentence("Terms", "KEYS are 0 to 7, each with a value (an int), 0 at first.");
         for (int k = 0; k <= 7; k++) {
             BOUNDS.due(Bounds.EMPTY, Call.get(k), 0);
             BOUNDS.due(Bounds.EMPTY, Call.valueAt(0, 0, k), 0);
@@ -81,7 +120,7 @@ public final class TermsBoundsTest {
     }
 
     private static void keysHoldInts() {
-        BOUNDS.sentence("KEYS are 0 to 7, each with a value (an int)");
+        BOUNDS.sentence("Terms", "KEYS are 0 to 7, each with a value (an int)");
         for (int k = 0; k <= 7; k++) {
             PointInTime x = new PointInTime();
             for (int v : Bounds.VALUES) {
@@ -93,7 +132,7 @@ public final class TermsBoundsTest {
     }
 
     private static void changeSetsOneOrTwoKeys() {
-        BOUNDS.sentence("A CHANGE sets one or two keys.");
+        BOUNDS.sentence("Terms", "A CHANGE sets one or two keys.");
         for (int k = 0; k <= 7; k++) {
             for (int l = 0; l <= 7; l++) {
                 PointInTime x = Bounds.BUSY.made();
@@ -102,25 +141,19 @@ public final class TermsBoundsTest {
                 int kept = want[k];
                 want[k] = want[l];
                 want[l] = kept;
-                valuesNow("exchange(" + k + ", " + l + ")", x, want);
+                BOUNDS.valuesNow("exchange(" + k + ", " + l + ")", x, want);
                 x.set(k, 777);
                 want[k] = 777;
-                valuesNow("set(" + k + ", 777)", x, want);
+                BOUNDS.valuesNow("set(" + k + ", 777)", x, want);
                 x.add(l, 8);
                 want[l] += 8;
-                valuesNow("add(" + l + ", 8)", x, want);
+                BOUNDS.valuesNow("add(" + l + ", 8)", x, want);
             }
         }
     }
 
-    private static void valuesNow(String after, PointInTime x, int[] want) {
-        for (int k = 0; k <= 7; k++) {
-            BOUNDS.due(after + ", then get(" + k + ")", x.get(k), want[k]);
-        }
-    }
-
     private static void timelinesAtMost5() {
-        BOUNDS.sentence("TIMELINES are numbered 0, 1, .., at most 5");
+        BOUNDS.sentence("Terms", "TIMELINES are numbered 0, 1, .., at most 5");
         for (Run state : List.of(Bounds.EMPTY, Bounds.BUSY)) {
             PointInTime x = state.made();
             BOUNDS.due("timeline()", x.timeline(), 0);
@@ -139,7 +172,7 @@ public final class TermsBoundsTest {
     }
 
     private static void timeline0Begins() {
-        BOUNDS.sentence("timeline 0 begins with all values 0");
+        BOUNDS.sentence("Terms", "timeline 0 begins with all values 0");
         for (Run state : Bounds.STATES) {
             PointInTime x = state.made();
             for (int k = 0; k <= 7; k++) {
@@ -148,11 +181,25 @@ public final class TermsBoundsTest {
         }
         PointInTime x = Bounds.BUSY.made();
         x.restore(0, 0);
-        valuesNow("restore(0, 0)", x, new int[8]);
+        BOUNDS.valuesNow("restore(0, 0)", x, new int[8]);
+    }
+
+    private static void pointsAreNumbered() {
+        BOUNDS.sentence("Terms", "A timeline has the POINTS 0, 1, 2, ..");
+        int[] lasts = {9, 9, 11};
+        PointInTime x = Bounds.BRANCHED.made();
+        for (int t = 0; t <= 2; t++) {
+            for (int n = -2; n <= 32; n++) {
+                boolean has = 0 <= n && n <= lasts[t];
+                BOUNDS.holds("timeline " + t + ", point " + n, (x.differs(t, n) != Bounds.NONE) == has);
+                BOUNDS.holds("timeline " + t + ", point " + n, (x.lastChange(t, n, 0) != Bounds.NONE) == has);
+                BOUNDS.due(Bounds.BRANCHED, Call.restore(t, n), has ? 3 : Bounds.NONE);
+            }
+        }
     }
 
     private static void pointZeroIsTheBegin() {
-        BOUNDS.sentence("point 0 of timeline 0 is its begin");
+        BOUNDS.sentence("Terms", "point 0 of timeline 0 is its begin");
         BOUNDS.due(Bounds.EMPTY, Call.point(), 0);
         BOUNDS.due(Bounds.EMPTY, Call.lastPoint(0), 0);
         BOUNDS.due(Bounds.EMPTY, Call.differs(0, 0), 0);
@@ -162,7 +209,7 @@ public final class TermsBoundsTest {
     }
 
     private static void everyChangeMakesTheNextPoint() {
-        BOUNDS.sentence("every change makes the next point of the timeline that is PRESENT");
+        BOUNDS.sentence("Terms", "every change makes the next point of the timeline that is PRESENT");
         Call[] changes = {Call.set(0, 0), Call.add(7, 0), Call.exchange(3, 3), Call.exchange(3, 4),
             Call.set(1, 5), Call.set(1, 5), Call.add(1, -5), Call.exchange(0, 7)};
         BOUNDS.dueInTurn(Bounds.EMPTY, changes, new int[] {1, 2, 3, 4, 5, 6, 7, 8});
@@ -180,7 +227,7 @@ public final class TermsBoundsTest {
     }
 
     private static void stateAtAPoint() {
-        BOUNDS.sentence("The STATE at a point is the values after all changes up to it.");
+        BOUNDS.sentence("Terms", "The STATE at a point is the values after all changes up to it.");
         for (int last = 1; last <= 30; last++) {
             PointInTime x = new PointInTime();
             for (int p = 1; p <= last; p++) {
@@ -201,7 +248,8 @@ public final class TermsBoundsTest {
     }
 
     private static void restoringHasThePoints() {
-        BOUNDS.sentence("a new timeline, present from then on, that has the points 0 to n of timeline t, with their states");
+        BOUNDS.sentence("Terms", "RESTORING point n of timeline t makes a new timeline, present from then on, "
+            + "that has the points 0 to n of timeline t, with their states");
         for (int t = 0; t <= 4; t++) {
             for (int n : new int[] {0, 1, 29, 30}) {
                 restoredIsLike(t, n);
@@ -238,7 +286,7 @@ public final class TermsBoundsTest {
     }
 
     private static void goesOnFromThere() {
-        BOUNDS.sentence("goes on from there (its next change makes point n + 1)");
+        BOUNDS.sentence("Terms", "and goes on from there (its next change makes point n + 1).");
         for (int n : new int[] {0, 1, 28, 29}) {
             Run restored = Bounds.FULL_TIMELINE.then("restored at " + n, Call.restore(2, n));
             BOUNDS.due(restored, Call.set(0, 3), n + 1);
@@ -256,7 +304,7 @@ public final class TermsBoundsTest {
     }
 
     private static void atMost30Points() {
-        BOUNDS.sentence("A timeline has at most 30 points besides 0.");
+        BOUNDS.sentence("Terms", "A timeline has at most 30 points besides 0.");
         Run run = Bounds.EMPTY;
         for (int t = 0; t <= 5; t++) {
             Run at29 = run.upToPoint(29);
@@ -274,7 +322,7 @@ public final class TermsBoundsTest {
     }
 
     private static void backupsAreNotSeen() {
-        BOUNDS.sentence("What the calls of backups and of the archive do can't be seen by any other call.");
+        BOUNDS.sentence("Terms", "What the calls of backups and of the archive do can't be seen by any other call.");
         for (Run state : Bounds.STATES) {
             for (int many = 0; many <= 8; many++) {
                 Run underWay = state.then(state + ", a backup under way", Call.backup(8), Call.backup(many));
@@ -290,7 +338,7 @@ public final class TermsBoundsTest {
     }
 
     private static void noCallThrows() {
-        BOUNDS.sentence("No call ever throws.");
+        BOUNDS.sentence("Terms", "No call ever throws.");
         int[] edges = {Bounds.MIN, -(1 << 29), -249, -248, -31, -8, -6, -1, 0, 5, 6, 7, 8, 9, 29, 30, 31, 247, 248,
             1487, 1488, 1 << 28, 1 << 29, 1 << 30, Bounds.MAX};
         for (Run state : Bounds.STATES) {
@@ -325,7 +373,7 @@ public final class TermsBoundsTest {
     }
 
     private static void refusedCallsChangeNothing() {
-        BOUNDS.sentence("A refused call answers the code named and changes nothing.");
+        BOUNDS.sentence("Terms", "A refused call answers the code named and changes nothing.");
         int[] edges = {Bounds.MIN, -1, 0, 5, 6, 7, 8, 9, 30, 31, Bounds.MAX};
         for (Run state : Bounds.STATES) {
             for (int a : edges) {
@@ -349,6 +397,26 @@ public final class TermsBoundsTest {
         boolean answersValue = call.text().startsWith("get") || call.text().startsWith("digest");
         if (want < 0 && !answersValue) {
             BOUNDS.refused(state, call, want);
+        }
+    }
+
+    private static void constants() {
+        BOUNDS.sentence("Terms", "The constants: `BAD_ARG = -1`: An argument is out of its range.");
+        BOUNDS.due("BAD_ARG", PointInTime.BAD_ARG, -1);
+        for (Call call : List.of(Call.set(8, 0), Call.exchange(-1, 0), Call.exchange(0, 8), Call.add(-1, 0),
+                Call.lastChange(0, 0, 8), Call.backup(9), Call.flush(-1))) {
+            BOUNDS.refused(Bounds.ALL_FULL, call, PointInTime.BAD_ARG);
+        }
+        BOUNDS.sentence("Terms", "`FULL = -2`: A limit is reached.");
+        BOUNDS.due("FULL", PointInTime.FULL, -2);
+        for (Call call : List.of(Call.set(7, 0), Call.exchange(0, 7), Call.add(0, 0), Call.restore(5, 30))) {
+            BOUNDS.refused(Bounds.ALL_FULL, call, PointInTime.FULL);
+        }
+        BOUNDS.sentence("Terms", "`NONE = -4`: There is no such thing.");
+        BOUNDS.due("NONE", PointInTime.NONE, -4);
+        for (Call call : List.of(Call.restore(6, 0), Call.restore(5, 31), Call.lastPoint(-1), Call.lastPoint(6),
+                Call.lastChange(0, 31, 0), Call.lastChange(6, 0, 0), Call.differs(0, -1), Call.differs(6, 0))) {
+            BOUNDS.refused(Bounds.ALL_FULL, call, PointInTime.NONE);
         }
     }
 }
